@@ -1,11 +1,5 @@
 // For each promise of the document, a test that fails if the promise is broken.
-public final class PromiseTest {
-    private static final int NONE = RouteTable.NONE;
-    private static final int LEAST = Integer.MIN_VALUE;
-    private static final int GREATEST = Integer.MAX_VALUE;
-
-    private static int wrong = 0;
-
+public final class PromiseTest extends TestHelp {
     public static void main(String[] args) {
         constant();
         promise1NewObject();
@@ -32,25 +26,7 @@ public final class PromiseTest {
         promise15SpanStart();
         objectsAreApart();
         questionsChangeNothing();
-        System.out.println(wrong == 0 ? "all promises hold" : wrong + " answers are wrong");
-        if (wrong != 0) {
-            System.exit(1);
-        }
-    }
-
-    private static void same(String what, long got, long due) {
-        if (got != due) {
-            wrong++;
-            System.out.println(what + " answered " + got + ", due is " + due);
-        }
-    }
-
-    private static void yes(String what, boolean got) {
-        same(what, got ? 1 : 0, 1);
-    }
-
-    private static void no(String what, boolean got) {
-        same(what, got ? 1 : 0, 0);
+        end("all promises hold");
     }
 
     private static void constant() {
