@@ -14,6 +14,7 @@ public final class BoundaryCountTest extends TestHelp {
         promise13SameGoalWithoutIt();
         promise13OrToNone();
         promise13EveryAddressCounts();
+        promise13ItsNeighboursDoNotCount();
         promise13FalseWhenThereIsNone();
         promise13FalseWhenItIsNoBeginning();
         promise14OrAllToNone();
@@ -189,6 +190,26 @@ public final class BoundaryCountTest extends TestHelp {
         }
     }
 
+    // The routes before and behind with as many bits are not left out with it.
+    private static void promise13ItsNeighboursDoNotCount() {
+        for (int[] at : beginnings()) {
+            int address = at[0];
+            int bits = at[1];
+            if (bits == 0) {
+                continue;
+            }
+            RouteTable x = only(0, 0, 1);
+            x.put(address, bits, 1);
+            x.put(address - width(bits), bits, 2);
+            x.put(address + width(bits), bits, 2);
+            yes("13: idle" + text(at) + " between two that are not", x.idle(address, bits));
+            x.put(address, bits, 2);
+            x.put(address - width(bits), bits, 1);
+            x.put(address + width(bits), bits, 1);
+            no("13: idle" + text(at) + " between two that are", x.idle(address, bits));
+        }
+    }
+
     private static void promise13FalseWhenThereIsNone() {
         for (int[] at : beginnings()) {
             int address = at[0];
@@ -197,8 +218,10 @@ public final class BoundaryCountTest extends TestHelp {
             if (bits == 0) {
                 continue;
             }
+            for (int goal = 0; goal < 100; goal++) {
+                no("13: idle" + text(at) + " never put", only(0, 0, goal).idle(address, bits));
+            }
             RouteTable x = only(0, 0, 4);
-            no("13: idle" + text(at) + " never put", x.idle(address, bits));
             x.put(address, bits, 4);
             yes("13: idle" + text(at) + " put", x.idle(address, bits));
             no("13: idle of the one before " + text(at), x.idle(address - width(bits), bits));
