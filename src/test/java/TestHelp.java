@@ -27,7 +27,8 @@ abstract class TestHelp {
         LEAST, LEAST + 1, LEAST + 99, GREATEST - 99, GREATEST - 1, GREATEST,
     };
 
-    private static final int SHOWN = 40;
+    // Enough to see what is broken; a broken class may also be very slow.
+    private static final int ENOUGH = 40;
 
     private static int wrong = 0;
 
@@ -36,8 +37,9 @@ abstract class TestHelp {
             return;
         }
         wrong++;
-        if (wrong <= SHOWN) {
-            System.out.println(what + " answered " + got + ", due is " + due);
+        System.out.println(what + " answered " + got + ", due is " + due);
+        if (wrong == ENOUGH) {
+            end("");
         }
     }
 
